@@ -31,11 +31,9 @@ public final class OneJoy {
     private final Tape tape = new Tape();
     private final VillageText villageText = new VillageText(tape);
     private final LawText lawText = new LawText(tape);
-    private final Village draft = new Village();
     private final Village village = new Village();
     private final Village image = new Village();
     private boolean imaged;
-    private final Law lawDraft = new Law();
     private final Law plainLaw = new Law();
     private final Law[] laws = new Law[LAWS_MOST];
     private int lawCount;
@@ -68,24 +66,25 @@ public final class OneJoy {
     }
 
     public int fault(int sort) {
-        if (sort == 0) {
-            return villageText.read(draft);
+        switch (sort) {
+            case 0: return villageText.read();
+            case 1: return lawText.read();
+            default: return -2;
         }
-        return sort == 1 ? lawText.read(lawDraft) : -2;
     }
 
     public int text(int sort) {
-        if (sort == 0) {
+        if (sort == 0 && villageText.read() == NONE) {
             return settle();
         }
-        return sort == 1 ? enact() : NONE;
+        if (sort == 1 && lawCount < LAWS_MOST && lawText.read() == NONE) {
+            return enact();
+        }
+        return NONE;
     }
 
     private int settle() {
-        if (villageText.read(draft) != NONE) {
-            return NONE;
-        }
-        village.take(draft);
+        village.take(villageText.draft);
         acts.clear();
         seen.clear();
         imaged = false;
@@ -94,15 +93,16 @@ public final class OneJoy {
     }
 
     private int enact() {
-        if (lawCount < 0 || lawCount >= laws.length || lawText.read(lawDraft) != NONE) {
+        int number = lawCount;
+        if (number < 0 || number >= laws.length) {
             return NONE;
         }
         Law law = new Law();
-        law.take(lawDraft);
-        laws[lawCount] = law;
-        tape.cut(0);
+        law.take(lawText.draft);
+        laws[number] = law;
         lawCount++;
-        return lawCount - 1;
+        tape.cut(0);
+        return number;
     }
 
     public int house(int house, int what) throws NoSuchElementException {
@@ -568,10 +568,14 @@ public final class OneJoy {
             if (fault != NONE) {
                 return END;
             }
-            for (; next < length && Rows.get(bytes, next) == BLANK; next++) {
-                fault = NONE;
+            for (int i = next; i >= 0 && i < length && i < bytes.length; i++) {
+                next = i;
+                if (bytes[i] != BLANK) {
+                    return bytes[i];
+                }
             }
-            return next < length ? Rows.get(bytes, next) : END;
+            next = length;
+            return END;
         }
 
         void skip() {
@@ -596,27 +600,30 @@ public final class OneJoy {
             if (peek() == sign) {
                 next++;
             } else {
-                fail();
+                failAt(next);
             }
         }
 
-        private boolean onDigit() {
-            int sign = next < length ? Rows.get(bytes, next) : END;
+        private int here() {
+            return next >= 0 && next < length && next < bytes.length ? bytes[next] : END;
+        }
+
+        private static boolean isDigit(int sign) {
             return sign >= '0' && sign <= '9';
         }
 
         int number(int digits, int most) {
-            peek();
-            if (!onDigit()) {
+            if (!isDigit(peek())) {
                 fail();
+                return 0;
             }
             int value = 0;
-            for (int i = 0; i < digits && fault == NONE && onDigit(); i++) {
-                value = value * 10 + Rows.get(bytes, next) - '0';
+            for (int i = 0; i < digits && isDigit(here()); i++) {
+                value = value * 10 + here() - '0';
                 next++;
             }
             // One digit too many is told ahead of a number that is too high.
-            if (onDigit()) {
+            if (isDigit(here())) {
                 fail();
             }
             if (value > most) {
@@ -638,6 +645,8 @@ public final class OneJoy {
         private static final int[] HOUSE_FIRST = {5, 1, 1, 0, 0, 0};
         private static final int[] WINDOW_FIRST = {0, 1, 0};
         private final Tape tape;
+        /** The village that the latest reading told, whole only without a fault. */
+        final Village draft = new Village();
         private final int[] values = new int[6];
         private boolean told;
 
@@ -645,35 +654,35 @@ public final class OneJoy {
             this.tape = tape;
         }
 
-        int read(Village into) {
+        int read() {
             tape.rewind();
-            into.clear();
+            draft.clear();
             told = false;
             for (int i = 0; i < TAPE_MOST; i++) {
-                clause(into);
+                clause();
                 if (tape.peek() == Tape.END) {
                     break;
                 }
                 tape.expect(';');
             }
-            if (!into.holdsTogether()) {
+            if (!draft.holdsTogether()) {
                 tape.failAtEnd();
             }
             return tape.faultFound();
         }
 
-        private void clause(Village into) {
+        private void clause() {
             int sign = tape.peek();
             if (sign == 'v' && !told) {
                 told = true;
                 items(VILLAGE_LETTERS, VILLAGE_MOST, VILLAGE_FIRST);
-                into.begin(values);
-            } else if (sign == 'd' && into.houses < HOUSES_MOST) {
+                draft.begin(values);
+            } else if (sign == 'd' && draft.houses < HOUSES_MOST) {
                 items(HOUSE_LETTERS, HOUSE_MOST, HOUSE_FIRST);
-                into.addHouse(values);
-            } else if (sign == 'w' && into.windows < WINDOWS_MOST) {
+                draft.addHouse(values);
+            } else if (sign == 'w' && draft.windows < WINDOWS_MOST) {
                 items(WINDOW_LETTERS, WINDOW_MOST, WINDOW_FIRST);
-                into.addWindow(values);
+                draft.addWindow(values);
             } else {
                 tape.fail();
             }
@@ -705,16 +714,16 @@ public final class OneJoy {
         private static final int DEPTH_MOST = 6;
         private static final String LETTERS = "wepktbuh";
         private final Tape tape;
-        private Law law;
+        /** The law that the latest reading told, whole only without a fault. */
+        final Law draft = new Law();
 
         LawText(Tape tape) {
             this.tape = tape;
         }
 
-        int read(Law into) {
-            law = into;
-            into.clear();
+        int read() {
             tape.rewind();
+            draft.clear();
             for (int i = 0; i < TAPE_MOST; i++) {
                 clause();
                 if (tape.peek() == Tape.END) {
@@ -723,12 +732,6 @@ public final class OneJoy {
                 tape.expect(';');
             }
             return tape.faultFound();
-        }
-
-        private void emit(int kind, int value) {
-            if (law != null) {
-                law.emit(kind, value);
-            }
         }
 
         private void clause() {
@@ -749,10 +752,10 @@ public final class OneJoy {
             }
             if (bound) {
                 tape.expect('?');
-                emit(Law.UNLESS, 0);
+                draft.emit(Law.UNLESS, 0);
                 sum(0);
             }
-            emit(Law.GIVE, 0);
+            draft.emit(Law.GIVE, 0);
         }
 
         private void condition(int depth) {
@@ -764,7 +767,7 @@ public final class OneJoy {
             for (int i = 0; i < TAPE_MOST && tape.peek() == '|'; i++) {
                 tape.skip();
                 truth(depth);
-                emit(Law.OR, 0);
+                draft.emit(Law.OR, 0);
             }
         }
 
@@ -777,7 +780,7 @@ public final class OneJoy {
             for (int i = 0; i < TAPE_MOST && tape.peek() == '&'; i++) {
                 tape.skip();
                 unit(depth);
-                emit(Law.AND, 0);
+                draft.emit(Law.AND, 0);
             }
         }
 
@@ -791,7 +794,7 @@ public final class OneJoy {
             } else if (sign == '!') {
                 tape.skip();
                 unit(depth + 1);
-                emit(Law.NOT, 0);
+                draft.emit(Law.NOT, 0);
             } else {
                 tape.skip();
                 condition(depth + 1);
@@ -817,7 +820,7 @@ public final class OneJoy {
             }
             tape.skip();
             sum(depth);
-            emit(kind, 0);
+            draft.emit(kind, 0);
         }
 
         private void sum(int depth) {
@@ -829,7 +832,7 @@ public final class OneJoy {
                 }
                 tape.skip();
                 term(depth);
-                emit(sign == '+' ? Law.PLUS : Law.LESS_BY, 0);
+                draft.emit(sign == '+' ? Law.PLUS : Law.LESS_BY, 0);
             }
         }
 
@@ -842,7 +845,7 @@ public final class OneJoy {
                 }
                 tape.skip();
                 atom(depth);
-                emit(sign == '*' ? Law.TIMES : Law.PARTED, 0);
+                draft.emit(sign == '*' ? Law.TIMES : Law.PARTED, 0);
             }
         }
 
@@ -851,9 +854,9 @@ public final class OneJoy {
             int letter = sign == Tape.END ? NONE : LETTERS.indexOf((char) sign);
             if (letter >= 0) {
                 tape.skip();
-                emit(Law.LETTER, letter);
+                draft.emit(Law.LETTER, letter);
             } else if (sign != '[') {
-                emit(Law.NUMBER, tape.number(4, 9999));
+                draft.emit(Law.NUMBER, tape.number(4, 9999));
             } else if (depth >= DEPTH_MOST) {
                 tape.fail();
             } else {
@@ -883,14 +886,21 @@ public final class OneJoy {
         private static final int NUMBERS = 10000;
         private static final int BOUND = 1000000;
         private static final int STACK = 40;
+        private static final int TIME_LETTER = TRAITS + 2;
         private final int[] steps = new int[TAPE_MOST];
         private final int[] stack = new int[STACK];
         private int length;
-        private int open;
+        private int open = NONE;
+        private boolean tellsTime;
 
         void clear() {
             length = 0;
             open = NONE;
+            tellsTime = false;
+        }
+
+        boolean isByTime() {
+            return tellsTime;
         }
 
         boolean isPlain() {
@@ -900,6 +910,7 @@ public final class OneJoy {
         void take(Law other) {
             Rows.copy(other.steps, steps);
             length = other.length;
+            tellsTime = other.tellsTime;
         }
 
         /** A failing condition leads behind the GIVE of its own clause: known when that comes. */
@@ -907,6 +918,7 @@ public final class OneJoy {
             if (kind == UNLESS) {
                 open = length;
             }
+            tellsTime |= kind == LETTER && value == TIME_LETTER;
             Rows.put(steps, length, kind * NUMBERS + value);
             length = Math.min(length + 1, steps.length);
             if (kind == GIVE && open != NONE) {
@@ -940,26 +952,38 @@ public final class OneJoy {
             return 0;
         }
 
-        private static int joined(int kind, int a, int b) {
+        private static int joined(int kind, long a, long b) {
+            long number;
             switch (kind) {
-                case PLUS: return within((long) a + b);
-                case LESS_BY: return within((long) a - b);
-                case TIMES: return within((long) a * b);
-                case PARTED: return b == 0 ? 0 : a / b;
-                case SAME: return bit(a == b);
-                case LESS: return bit(a < b);
-                case MORE: return bit(a > b);
-                case AND: return a & b;
-                default: return a | b;
+                case PLUS:
+                    number = a + b;
+                    break;
+                case LESS_BY:
+                    number = a - b;
+                    break;
+                case TIMES:
+                    number = a * b;
+                    break;
+                case PARTED:
+                    number = b == 0L ? 0L : a / b;
+                    break;
+                case SAME:
+                    number = a == b ? 1L : 0L;
+                    break;
+                case LESS:
+                    number = a < b ? 1L : 0L;
+                    break;
+                case MORE:
+                    number = a > b ? 1L : 0L;
+                    break;
+                case AND:
+                    number = a & b;
+                    break;
+                default:
+                    number = a | b;
+                    break;
             }
-        }
-
-        private static int bit(boolean is) {
-            return is ? 1 : 0;
-        }
-
-        private static int within(long number) {
-            return (int) Math.max(-BOUND, Math.min(BOUND, number));
+            return (int) (number > BOUND ? BOUND : number < -BOUND ? -BOUND : number);
         }
     }
 
@@ -1240,6 +1264,8 @@ public final class OneJoy {
     static final class Walk {
         static final int PLACES = HOUSES_MOST * (HOUSES_MOST + 1);
         private static final int STATES = PLACES * DAY;
+        /** Marks start anew from here, long before they would go round. */
+        private static final int TRAIL_LAST = 2000000000;
         final Village place = new Village();
         private Law law;
         int at;
@@ -1251,10 +1277,8 @@ public final class OneJoy {
         /** The houses that see it from a house, rising, in a row of their own each. */
         private final int[] doors = new int[HOUSES_MOST * HOUSES_MOST];
         private final int[] doorCounts = new int[HOUSES_MOST];
-        /** Wishes by back, house, and time: known when marked with this start's number. */
-        private final int[] wishes = new int[2 * HOUSES_MOST * DAY];
-        private final int[] known = new int[2 * HOUSES_MOST * DAY];
-        private int starts;
+        /** Wishes by house, back, and time: asked for far more often than they change. */
+        private final int[] wishes = new int[HOUSES_MOST * 2 * DAY];
         private final int[] letters = new int[TRAITS + 3];
         private final int[] trail = new int[STATES];
         private int trailBase = 1;
@@ -1266,18 +1290,20 @@ public final class OneJoy {
         void start(Village village, Law lawNow) {
             place.take(village);
             law = lawNow;
-            starts++;
             backs = place.backs;
             envious = place.all();
+            for (int h = 0; h < place.houses; h++) {
+                reckonWishes(h);
+            }
             openDoors(place.shuts);
             restart();
         }
 
         void restart() {
-            stand(place.at, place.before, place.hour % DAY);
+            standAt(place.at, place.before, place.hour % DAY);
         }
 
-        void stand(int atNow, int beforeNow, int timeNow) {
+        void standAt(int atNow, int beforeNow, int timeNow) {
             at = atNow;
             before = beforeNow;
             time = timeNow;
@@ -1352,42 +1378,46 @@ public final class OneJoy {
             return next;
         }
 
-        private int wishPlace(int house, int back) {
-            return (back * HOUSES_MOST + house) * DAY + time;
+        private static int wishPlace(int house, int back, int time) {
+            return (house * 2 + back) * DAY + time;
         }
 
         int wishOf(int house) {
-            int back = Rows.has(backs, house) ? 1 : 0;
-            int i = wishPlace(house, back);
-            if (Rows.get(known, i) != starts) {
-                Rows.put(wishes, i, reckonWish(house, back));
-                Rows.put(known, i, starts);
-            }
-            return Rows.get(wishes, i);
+            return Rows.get(wishes, wishPlace(house, Rows.has(backs, house) ? 1 : 0, time));
         }
 
-        private int reckonWish(int house, int back) {
+        private void reckonWishes(int house) {
+            boolean byTime = law != null && law.isByTime();
+            for (int back = 0; back <= 1; back++) {
+                int wish = 0;
+                for (int t = 0; t < DAY; t++) {
+                    wish = byTime || t == 0 ? reckonWish(house, back, t) : wish;
+                    Rows.put(wishes, wishPlace(house, back, t), wish);
+                }
+            }
+        }
+
+        private int reckonWish(int house, int back, int t) {
             if (law == null || law.isPlain()) {
                 int want = back == 1 ? 0 : place.trait(house, WANT);
                 return place.music ? want - place.trait(house, TUNE) : want;
             }
-            for (int t = 0; t < TRAITS; t++) {
-                Rows.put(letters, t, place.trait(house, t));
+            for (int i = 0; i < TRAITS; i++) {
+                Rows.put(letters, i, place.trait(house, i));
             }
             Rows.put(letters, TRAITS, back);
             Rows.put(letters, TRAITS + 1, place.music ? 1 : 0);
-            Rows.put(letters, TRAITS + 2, time);
+            Rows.put(letters, TRAITS + 2, t);
             return law.worth(letters);
         }
 
-        /** A house wants more (or less again): what was known of wishes is so no more. */
         void want(int house, int more) {
             place.want(house, more);
-            starts++;
+            reckonWishes(house);
         }
 
         private void beginTrail() {
-            if (trailBase > Integer.MAX_VALUE - 3 * STATES) {
+            if (trailBase > TRAIL_LAST) {
                 Arrays.fill(trail, 0);
                 trailBase = 1;
             } else {
@@ -1477,7 +1507,7 @@ public final class OneJoy {
                     int before = walk.before;
                     int time = walk.time;
                     tryTurns(i, settled | 1 << open, turned, depth + 1);
-                    walk.stand(at, before, time);
+                    walk.standAt(at, before, time);
                     walk.backs |= 1 << open;
                     tryTurns(i, settled | 1 << open, turned | 1 << open, depth + 1);
                     walk.backs &= ~(1 << open);
@@ -1541,7 +1571,9 @@ public final class OneJoy {
 
         private boolean isThere(int house, int n) {
             walk.restart();
-            walk.hours(n);
+            for (int i = 0; i < n; i++) {
+                walk.hour();
+            }
             return walk.at == house;
         }
 
@@ -1622,9 +1654,9 @@ public final class OneJoy {
             return at * (HOUSES_MOST + 1) + (before == NONE ? HOUSES_MOST : before);
         }
 
-        private void standAt(int place, int time) {
+        private void walkFrom(int place, int time) {
             int before = place % (HOUSES_MOST + 1);
-            walk.stand(place / (HOUSES_MOST + 1), before == HOUSES_MOST ? NONE : before, time);
+            walk.standAt(place / (HOUSES_MOST + 1), before == HOUSES_MOST ? NONE : before, time);
         }
 
         private static long get(long[] row, int i) {
@@ -1656,7 +1688,7 @@ public final class OneJoy {
                 if (parts > 0L) {
                     long held = parts * chance / 100L;
                     put(then, p, get(then, p) + held);
-                    standAt(p, time);
+                    walkFrom(p, time);
                     walk.hour();
                     int to = placeOf(walk.at, walk.before);
                     put(then, to, get(then, to) + parts - held);
@@ -1704,13 +1736,13 @@ public final class OneJoy {
             for (int p = 0; p < Walk.PLACES; p++) {
                 long lies = get(now, p);
                 if (lies < FAR) {
-                    standAt(p, time);
+                    walkFrom(p, time);
                     reach(lies);
-                    standAt(p, time);
+                    walkFrom(p, time);
                     int from = walk.at;
                     int to = walk.place.threeOn(from);
                     if (to != from) {
-                        walk.stand(to, from, time);
+                        walk.standAt(to, from, time);
                         reach(lies + 1L);
                     }
                 }
