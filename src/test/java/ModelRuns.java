@@ -193,7 +193,7 @@ public final class ModelRuns {
                 put(dice.oneIn(9) && digits.length() < 4 ? "0" + digits : digits);
                 return l -> number;
             }
-            int letter = dice.roll(8);
+            int letter = dice.oneIn(3) ? 7 : dice.roll(8);
             put("wepktbuh".substring(letter, letter + 1));
             return l -> l[letter];
         }

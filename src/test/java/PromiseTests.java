@@ -510,9 +510,40 @@ public final class PromiseTests {
         ring.mist(0);
         ring.mists(3, 5);
         due("no mist", ring.count(6), (at + 3) % 5);
+        fogAheadOfAnHour();
         due("bounds", ring.mists(0, 1), -1);
         due("bounds", ring.mists(241, 1), -1);
         due("most", ring.mists(240, -1), 287);
+    }
+
+    private static long drawBehind(long seed, int n) {
+        long x = seed;
+        for (int i = 0; i < n; i++) {
+            x = x * 6364136223846793005L + 1442695040888963407L;
+        }
+        return (x >>> 33) % 100;
+    }
+
+    private static void fogAheadOfAnHour() {
+        long seed = 0;
+        for (int i = 0; i < 1000 && (drawBehind(seed, 1) >= 50 || drawBehind(seed, 2) < 50); i++) {
+            seed++;
+        }
+        OneJoy joy = village("dp0;d;dk1;w;wa0b2");
+        holdLaw(joy, "y:h=1?9-k;y:k");
+        joy.mist(50);
+        due("fog, then none", joy.mists(2, seed), 2);
+        due("the wish of the second hour", joy.count(6), 2);
+        due("below, not at it", drawBehind(seed, 1) < 50 ? 1 : 0, 1);
+        joy.undo();
+        joy.undo();
+        joy.mist((int) drawBehind(seed, 1));
+        joy.mists(1, seed);
+        due("a draw that is MIST is no fog", joy.count(6), 1);
+        joy.undo();
+        joy.mist((int) drawBehind(seed, 1) + 1);
+        joy.mists(1, seed);
+        due("a draw below MIST is fog", joy.count(6), 0);
     }
 
     private static void p19undo() {
@@ -629,6 +660,9 @@ public final class PromiseTests {
         OneJoy two = village("dw5;dw5;dw9;dw5;dw9;w;wa0b2;wa2b3;wa2b4");
         due("two", two.stand(4, 2), 1 << 2 | 1 << 4);
         due("the last bound", two.stand(4, 30), 1 << 2 | 1 << 4);
+        // Both 1 and 4 alone would do: 0, 1, 4 or 0, 2, 4.
+        OneJoy ways = village("dp0;dw5;dw3;dw5;dw7;w;wa0b2;wa2b3;wa2b4;wa1b4");
+        due("of several the least", ways.stand(4, 2), 2);
         OneJoy either = village("de1w5;dw5;dw6;w;wa0b2");
         due("fewest first", either.stand(1, 1), 0);
     }
@@ -683,6 +717,7 @@ public final class PromiseTests {
         due("bounds", joy.feast(1, 0, 0), -1);
         due("bounds", joy.feast(1, 31, 0), -1);
         due("as it was", joy.house(2, 0), 3);
+        due("the last bound", village("d").feast(0, 30, 0), 0);
         OneJoy full = village("dp0;dw9;dw9;w;wa0b2");
         due("nine at most", full.feast(2, 1, 0), -1);
         OneJoy nine = village("dp0;dw0;dw8;w;wa0b2");
@@ -708,6 +743,10 @@ public final class PromiseTests {
         due("bounds", joy.odds(0, 1, 101), -1);
         due("bounds", joy.odds(0, 1, -1), -1);
         due("no such", joy.odds(4, 1, 30), -1);
+        OneJoy byTime = village("dp0;d;dk1;w;wa0b2");
+        holdLaw(byTime, "y:h=1?9-k;y:k");
+        due("an hour later another wish", byTime.odds(2, 2, 50), 250000000);
+        due("to the first one at once alone", byTime.odds(1, 2, 50), 500000000);
         due("mean", joy.mean(1, 2, 30), (700000000 + 420000000) / 1000);
         due("mean, cut", joy.mean(0, 6, 33), (330000000 + 108900000 + 35937000 + 11859210 + 3913539 + 1291467) / 1000);
         due("mean at most", joy.mean(0, 30, 100), 30000000);
@@ -789,10 +828,23 @@ public final class PromiseTests {
         joy.fog(true);
         due("the lowest open", joy.sills(), 1 << 3 | 1 << 1 | 1 << 5);
         due("none", new OneJoy().sills(), -1);
+        sillsBehindTwoDays();
         OneJoy late = village("d;d;d;wa0b1");
         holdLaw(late, "y:w");
         due("one way on", late.sills(), 1);
         due("none", village("d").sills(), 0);
+    }
+
+    /** Round five houses; by the last window only from that house at that time, which is in just one of 120 hours. */
+    private static void sillsBehindTwoDays() {
+        String ring = "d;d;d;d;d;dk1;wo1;wa1b2o1;wa2b3o1;wa3b4o1;wa4b0o1;";
+        OneJoy in = village(ring + "wa2b5o1");
+        holdLaw(in, "y:h=23&k=1?0;y:k=1?9;y:5");
+        due("in the 48th hour", in.sills(), 63);
+        OneJoy behind = village(ring + "wa3b5o1");
+        holdLaw(behind, "y:h=0&k=1?0;y:k=1?9;y:5");
+        due("in the 49th hour", behind.sills(), 31);
+        due("it goes there then", behind.ahead(49), 5);
     }
 
     private static void p38sees() {
