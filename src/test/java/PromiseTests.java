@@ -663,6 +663,9 @@ public final class PromiseTests {
         // Both 1 and 4 alone would do: 0, 1, 4 or 0, 2, 4.
         OneJoy ways = village("dp0;dw5;dw3;dw5;dw7;w;wa0b2;wa2b3;wa2b4;wa1b4");
         due("of several the least", ways.stand(4, 2), 2);
+        // Both 1 and 4 alone would do: 0, 3, 1 or 0, 4, 1.
+        OneJoy others = village("dp0;dw7;dw3;dw3;dw5;wa0b3;wa0b4;wa3b1;wa3b2;wa4b1");
+        due("of several the least", others.stand(1, 2), 2);
         OneJoy either = village("de1w5;dw5;dw6;w;wa0b2");
         due("fewest first", either.stand(1, 1), 0);
     }
