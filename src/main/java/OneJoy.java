@@ -614,7 +614,7 @@ public final class OneJoy {
 
         int number(int digits, int most) {
             if (!isDigit(peek())) {
-                fail();
+                failAt(next);
                 return 0;
             }
             int value = 0;
@@ -624,7 +624,7 @@ public final class OneJoy {
             }
             // One digit too many is told ahead of a number that is too high.
             if (isDigit(here())) {
-                fail();
+                failAt(next);
             }
             if (value > most) {
                 failAt(next - 1);
@@ -918,7 +918,9 @@ public final class OneJoy {
             if (kind == UNLESS) {
                 open = length;
             }
-            tellsTime |= kind == LETTER && value == TIME_LETTER;
+            if (kind == LETTER && value == TIME_LETTER) {
+                tellsTime = true;
+            }
             Rows.put(steps, length, kind * NUMBERS + value);
             length = Math.min(length + 1, steps.length);
             if (kind == GIVE && open != NONE) {
