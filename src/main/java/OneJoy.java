@@ -1427,9 +1427,14 @@ public final class OneJoy {
             }
         }
 
+        /** Where it is and its place before as one number. */
+        int placeNow() {
+            return at * (HOUSES_MOST + 1) + (before == NONE ? HOUSES_MOST : before);
+        }
+
         /** Marks all as it is behind i hours; tells behind how many it was so ahead, or NONE. */
         private int markTrail(int i) {
-            int state = (at * (HOUSES_MOST + 1) + (before == NONE ? HOUSES_MOST : before)) * DAY + time;
+            int state = placeNow() * DAY + time;
             int been = Rows.get(trail, state) - trailBase;
             if (been >= 0) {
                 return been;
@@ -1652,10 +1657,6 @@ public final class OneJoy {
             this.walk = walk;
         }
 
-        private static int placeOf(int at, int before) {
-            return at * (HOUSES_MOST + 1) + (before == NONE ? HOUSES_MOST : before);
-        }
-
         private void walkFrom(int place, int time) {
             int before = place % (HOUSES_MOST + 1);
             walk.standAt(place / (HOUSES_MOST + 1), before == HOUSES_MOST ? NONE : before, time);
@@ -1673,7 +1674,7 @@ public final class OneJoy {
 
         private void begin(long elsewhere, long here) {
             Arrays.fill(now, elsewhere);
-            put(now, placeOf(walk.at, walk.before), here);
+            put(now, walk.placeNow(), here);
         }
 
         private void turnOver() {
@@ -1692,7 +1693,7 @@ public final class OneJoy {
                     put(then, p, get(then, p) + held);
                     walkFrom(p, time);
                     walk.hour();
-                    int to = placeOf(walk.at, walk.before);
+                    int to = walk.placeNow();
                     put(then, to, get(then, to) + parts - held);
                 }
             }
@@ -1728,7 +1729,7 @@ public final class OneJoy {
 
         private void reach(long lies) {
             walk.hour();
-            int to = placeOf(walk.at, walk.before);
+            int to = walk.placeNow();
             put(then, to, Math.min(get(then, to), lies));
         }
 
