@@ -385,6 +385,9 @@ public final class EdgesAhead extends Edges {
         // 330000000 + 108900000 + 35937000 + 11859210 + 3913539 + 1291467 = 491901216: each cut alone it would be 491900.
         edge(31, "together, then by 1,000, cut", 491901, () -> village(chain).mean(0, 6, 33));
         edge(31, "by 1,000, cut, not rounded", 490609, () -> village(chain).mean(0, 5, 33));
+        // 1631463999 and 2703151999 in all.
+        edge(31, "by 1,000, cut, one below the next", 1631463, () -> village(chain).mean(0, 20, 62));
+        edge(31, "together beyond 31 bits", 2703151, () -> village(chain).mean(0, 27, 73));
         edge(31, "KIDS apart", 1000000, () -> village("vh6;dk9;dk9").mean(0, 1, 30));
         edge(31, "KIDS of another house apart", 0, () -> village("vh6;dk9;dk9").mean(1, 1, 30));
         edge(31, "at the chance, also if there is fog by hand", 700000, () -> inFog(CHAIN).mean(1, 1, 30));
